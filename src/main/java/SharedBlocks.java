@@ -832,9 +832,17 @@ public final class SharedBlocks {
                     m++;
                 }
             }
-            countTimes(m, limit);
+            begin(m);
+            int items = m;
+            for (int list = 1; list < limit; list++) {
+                items = makeList(list, m, items);
+            }
+            int wanted = 2 * m - 2;
+            for (int list = limit - 1; list >= 0; list--) {
+                wanted = takeItems(list, wanted);
+            }
             for (int i = 0; i < m && i < sorted.length && i < times.length; i++) {
-                code.setLength(sorted[i], times[i]);
+                code.setLength(sorted[i], m == 1 ? 1 : times[i]);
             }
         }
 
@@ -852,35 +860,29 @@ public final class SharedBlocks {
             }
         }
 
-        /** Counts how often each sorted symbol is taken. */
-        private void countTimes(int m, int limit) {
+        /** Makes the first list; nothing is taken yet. */
+        private void begin(int m) {
             for (int i = 0; i < times.length; i++) {
-                times[i] = m == 1 && i == 0 ? 1 : 0;
+                times[i] = 0;
             }
-            int items = m;
             for (int i = 0; i < m && i < older.length && i < sortedCounts.length; i++) {
                 older[i] = sortedCounts[i];
             }
-            for (int list = 1; list < limit; list++) {
-                items = makeList(list, m, items);
-            }
-            int wanted = 2 * m - 2;
-            for (int list = limit - 1; list >= 0; list--) {
-                wanted = takeItems(list, wanted);
-            }
         }
 
-        /** Makes the next list of the symbols and the pairs of the older list: how many items it has. */
+        /** Makes the next list of the m symbols and of pairs of the older list's items: how many items it has. */
         private int makeList(int list, int m, int items) {
+            int symbolEnd = Math.min(m, sortedCounts.length);
+            int pairEnd = Math.min(items, older.length) / 2;
+            int base = Math.max(list, 0) * MOST_ITEMS;
             int symbols = 0;
             int pairs = 0;
             int n = 0;
-            int base = list * MOST_ITEMS;
-            while (n < newer.length && (symbols < m || pairs < items / 2)) {
-                int pair = pairs < items / 2 ? weight(older, 2 * pairs) + weight(older, 2 * pairs + 1) : 0;
-                boolean isSymbol = symbols < m && (pairs >= items / 2 || weight(sortedCounts, symbols) <= pair);
-                newer[n] = isSymbol ? weight(sortedCounts, symbols) : pair;
-                if (base >= 0 && base + n < isPair.length) {
+            while (n < newer.length && (symbols < symbolEnd || pairs < pairEnd)) {
+                int pair = pairs < pairEnd ? older[2 * pairs] + older[2 * pairs + 1] : 0;
+                boolean isSymbol = symbols < symbolEnd && (pairs >= pairEnd || sortedCounts[symbols] <= pair);
+                newer[n] = isSymbol ? sortedCounts[symbols] : pair;
+                if (base + n < isPair.length) {
                     isPair[base + n] = !isSymbol;
                 }
                 symbols += isSymbol ? 1 : 0;
@@ -893,16 +895,12 @@ public final class SharedBlocks {
             return n;
         }
 
-        private static int weight(int[] weights, int i) {
-            return i >= 0 && i < weights.length ? weights[i] : 0;
-        }
-
         /** Takes the first items of a list: how many items of the list before that takes. */
         private int takeItems(int list, int wanted) {
             int symbols = 0;
             int pairs = 0;
-            int base = list * MOST_ITEMS;
-            for (int i = 0; i < wanted && base >= 0 && base + i < isPair.length; i++) {
+            int base = Math.max(list, 0) * MOST_ITEMS;
+            for (int i = 0; i < wanted && i < MOST_ITEMS && base + i < isPair.length; i++) {
                 if (isPair[base + i]) {
                     pairs++;
                 } else {
@@ -1033,10 +1031,13 @@ public final class SharedBlocks {
                 int to = Math.min(at + PART, end);
                 gather(source, at, to);
                 makeCodes();
+                makeTold();
+                makeSizes();
                 int sort = bestSort(to - at);
                 sink.bits(to == end ? 1 : 0, 1);
                 sink.bits(sort, 2);
                 if (sort == STORED) {
+                    sink.endByte();
                     tellStored(source, at, to);
                 } else if (sort == FIXED) {
                     tellItems(fixedSymbols, fixedDistances);
@@ -1060,9 +1061,15 @@ public final class SharedBlocks {
             distances.forget();
             int n = 1;
             for (int p = from; p < to; p += n) {
-                boolean match = matcher.find(source, p, to);
-                n = match ? matcher.length() : 1;
-                addItem(match ? n : source.at(p), match ? matcher.distance() : 0);
+                if (matcher.find(source, p, to)) {
+                    n = Math.max(matcher.length(), 1);
+                    addItem(n, matcher.distance());
+                    countMatch(lengthSymbol(n), distanceSymbol(matcher.distance()));
+                } else {
+                    n = 1;
+                    addItem(source.at(p), 0);
+                    symbols.count(source.at(p));
+                }
                 for (int i = 0; i < n; i++) {
                     matcher.know(source, p + i);
                 }
@@ -1076,12 +1083,9 @@ public final class SharedBlocks {
                 backs[items] = back;
                 items++;
             }
-            if (back == 0) {
-                symbols.count(value);
-                return;
-            }
-            int symbol = lengthSymbol(value);
-            int distance = distanceSymbol(back);
+        }
+
+        private void countMatch(int symbol, int distance) {
             symbols.count(symbol);
             distances.count(distance);
             moreBits += lengthBits(symbol) + distanceBits(distance);
@@ -1092,7 +1096,10 @@ public final class SharedBlocks {
             maker.make(distances, MOST_CODE);
             symbols.makeCodes();
             distances.makeCodes();
-            makeTold();
+        }
+
+        /** Makes the code that tells the row of lengths. */
+        private void makeSizes() {
             sizes.forget();
             for (int i = 0; i < toldCount && i < told.length; i++) {
                 sizes.count(told[i]);
@@ -1185,7 +1192,6 @@ public final class SharedBlocks {
         }
 
         private void tellStored(Bytes source, int from, int to) {
-            sink.endByte();
             sink.bits(to - from, 16);
             sink.bits(65535 - (to - from), 16);
             for (int p = from; p < to; p++) {
