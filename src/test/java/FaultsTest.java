@@ -15,6 +15,7 @@ final class FaultsTest {
         sorts();
         stored();
         fixed();
+        faultsAtTheEnd();
         madeHeads();
         madeCodes();
         madeSymbols();
@@ -208,6 +209,26 @@ final class FaultsTest {
         byte[] made = new byte[517];
         Arrays.fill(made, (byte) 97);
         makes("258 by 284 too", twice.check(made), made);
+    }
+
+    /** The row would be good if what is a fault ended the part. */
+    private static void faultsAtTheEnd() {
+        for (int s = 286; s <= 287; s++) {
+            faulty("symbol " + s + " at the end",
+                    Bits.packed().part(true, 1).fixedText("abcdef").fixed(s).check(bytes("abcdef")));
+        }
+        for (int d = 30; d <= 31; d++) {
+            faulty("distance " + d + " at the end", Bits.packed().part(true, 1).fixedText("abcdef").fixed(257)
+                    .fixedDistance(d).check(bytes("abcdef")));
+        }
+        faulty("a distance too far at the end", Bits.packed().part(true, 1).fixedText("abcdef").fixed(257)
+                .fixedDistance(5).bit(1).check(bytes("abcdef")));
+        for (int n = 0; n < 16; n++) {
+            Bits bits = zeros(head(Bits.packed(), false, 0, 0), 256);
+            told(bits, 1, 0);
+            faulty("no beginning of a code at the end", bits.code("1").number(0, n).endByte()
+                    .stored(true, bytes("abcdef")).check(bytes("abcdef")));
+        }
     }
 
     private static byte[] allBytes() {
@@ -548,7 +569,7 @@ final class FaultsTest {
             Due.same("one more", x.read(0, end - 1, 2), n < 4000 ? SharedBlocks.SPOILT : 1);
             Due.same("one behind it", x.read(0, end, 1), n < 4000 ? SharedBlocks.SPOILT : 0);
         }
-        for (int n : new int[] {4097, 5000}) {
+        for (int n : new int[] {4097, 4129, 5000}) {
             SharedBlocks x = holding(fixedRun(88, n), 4000);
             if (x != null) {
                 Due.same("a fragment of " + n, x.read(0, 0, 1), SharedBlocks.SPOILT);
@@ -564,7 +585,7 @@ final class FaultsTest {
 
     /** A block must have just its bytes. */
     private static void lengthsOfBlocks() {
-        for (int n : new int[] {1, 4095, 4096, 4097, 8192}) {
+        for (int n : new int[] {1, 4095, 4096, 4097, 4129, 8192}) {
             SharedBlocks x = holding(fixedRun(88, n), 4096);
             if (x != null) {
                 Due.same("a block of " + n, x.read(0, 0, 1), n == 4096 ? 1 : SharedBlocks.SPOILT);

@@ -30,6 +30,8 @@ final class Model {
     /** How often what is rare came, for a look at what the tests reach. */
     static final int[] seenSorts = new int[3];
     static int deepestCode = 0;
+    /** How often a stored part took as many bits as the best other one, one more, and a fixed one likewise. */
+    static final int[] seenTies = new int[4];
 
     private final byte[][] files = new byte[64][0];
     private byte[] tape = new byte[0];
@@ -609,6 +611,12 @@ final class Model {
                 sort = 0;
             }
             seenSorts[sort]++;
+            int overOthers = stored.length() - Math.min(fixed.length(), made.length());
+            int overMade = fixed.length() - made.length();
+            seenTies[0] += overOthers == 0 ? 1 : 0;
+            seenTies[1] += overOthers == 1 ? 1 : 0;
+            seenTies[2] += overMade == 0 && sort > 0 ? 1 : 0;
+            seenTies[3] += overMade == 1 && sort > 0 ? 1 : 0;
             text.append(end == data.length ? '1' : '0').append(low(sort, 2));
             text.append(sort == 0 ? stored : sort == 1 ? fixed : made);
         }

@@ -1,3 +1,4 @@
+import java.util.Arrays;
 import java.util.Random;
 import java.util.zip.DataFormatException;
 import java.util.zip.Inflater;
@@ -43,7 +44,13 @@ final class PackingTest {
         ordinary();
         edgesOfMatches();
         edgesOfParts();
+        edgesOfSorts();
+        edgesOfFixed();
         drawn();
+        System.out.println("as many bits, or one more: " + Arrays.toString(Model.seenTies));
+        for (int tie : Model.seenTies) {
+            Due.holds("parts were compared that take as many bits, or one more", tie >= 5);
+        }
         Due.end();
     }
 
@@ -148,6 +155,67 @@ final class PackingTest {
         compare("last part of one byte", 13, both -> both.fill(0, 77, 4097).fill(0, 1, 4095));
         compare("last part of two bytes", 14, both -> both.fill(0, 77, 8194));
         compare("all of it", 16, both -> both.fill(1, 5, 30000).fill(0, 4, 2768).fill(1, 5, 32768));
+    }
+
+    /** Fifteen files at a time, each of a part that packs well and a rest, for which several sorts are as good. */
+    private static void edgesOfSorts() {
+        for (int run = 0; run < 60; run++) {
+            SharedBlocks own = new SharedBlocks();
+            Model model = new Model();
+            for (int file = 0; file < 15; file++) {
+                int lead = 4096 - (run % 3 == 0 ? 0 : file * 3);
+                own.fill(file, 0, 250 + file, lead);
+                model.fill(file, 0, 250 + file, lead);
+                int n = 4096 - lead + 16 + run + file;
+                own.fill(file, 1, 100 * run + file, n);
+                model.fill(file, 1, 100 * run + file, n);
+                if (run % 2 == 0) {
+                    own.feed(0x2020202061616161L, 1 + file % 8);
+                    model.feed(0x2020202061616161L, 1 + file % 8);
+                    own.write(file, 3 + run / 4);
+                    model.write(file, 3 + run / 4);
+                }
+            }
+            int size = model.put(13, true, false);
+            Due.same("sorts " + run + ": put", own.put(13, true, false), size);
+            for (int file = 0; file < 15; file++) {
+                Due.same("sorts " + run + ": number of " + file, own.number(file, 0), model.number(file, 0));
+            }
+            for (int i = 0; i < 400 && i <= size / 8; i++) {
+                Due.same("sorts " + run + ": word " + i, own.word(i), model.word(i));
+            }
+        }
+    }
+
+    /** Forty short files at a time, of few letters, for which a fixed part and a made one are nearly as good. */
+    private static void edgesOfFixed() {
+        Random random = new Random(11);
+        for (int run = 0; run < 40; run++) {
+            SharedBlocks own = new SharedBlocks();
+            Model model = new Model();
+            for (int file = 0; file < 40; file++) {
+                int letters = 2 + random.nextInt(12);
+                int base = random.nextInt(200);
+                for (int feeds = 3 + random.nextInt(4); feeds > 0; feeds--) {
+                    long bytes = 0;
+                    for (int k = 0; k < 8; k++) {
+                        bytes = bytes << 8 | base + (int) (letters * random.nextDouble() * random.nextDouble());
+                    }
+                    own.feed(bytes, 8);
+                    model.feed(bytes, 8);
+                }
+                own.write(file, 1);
+                model.write(file, 1);
+            }
+            int size = model.put(12, true, false);
+            Due.same("fixed " + run + ": put", own.put(12, true, false), size);
+            for (int file = 0; file < 40; file++) {
+                Due.same("fixed " + run + ": number of " + file, own.number(file, 0), model.number(file, 0));
+            }
+            for (int i = 0; i < 110 && i <= size / 8; i++) {
+                Due.same("fixed " + run + ": word " + i, own.word(i), model.word(i));
+            }
+        }
     }
 
     private static void drawn() throws DataFormatException {
