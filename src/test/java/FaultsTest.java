@@ -22,6 +22,7 @@ final class FaultsTest {
         distances();
         ends();
         lengthsOfFragments();
+        storedTooMuch();
         lengthsOfBlocks();
         everyBit();
         foreignRows();
@@ -404,6 +405,9 @@ final class FaultsTest {
         bits.number(0, 3).number(0, 3).number(1, 3).number(0, 3);
         bits.code("0").number(127, 7).code("0").number(258 - 138 - 11, 7);
         faulty("all lengths are 0", bits.number(0, 20).check(bytes("abab")));
+        bits = Bits.packed().part(true, 2).number(0, 5).number(0, 5).number(0, 4);
+        bits.number(0, 3).number(0, 3).number(1, 3).number(0, 3);
+        faulty("no beginning of the one size's code", bits.code("1").number(0, 80).check(bytes("abab")));
         // As many as 19 sizes are told as are needed, and not one more.
         bits = Bits.packed().part(true, 2).number(0, 5).number(0, 5).number(14, 4);
         for (int s : new int[] {16, 17, 18, 0, 8, 7, 9, 6, 10, 5, 11, 4, 12, 3, 13, 2, 14, 1}) {
@@ -580,6 +584,28 @@ final class FaultsTest {
         if (x != null) {
             Due.same("a stored fragment", x.read(0, 0, 300), 300);
             Due.same("more than it", x.read(0, 0, 301), SharedBlocks.SPOILT);
+        }
+    }
+
+    /** A stored part behind a fixed one of 3871 bytes comes to the bytes that there may be, or to one more. */
+    private static void storedTooMuch() {
+        for (int n = 224; n <= 227; n++) {
+            byte[] made = new byte[3871 + n];
+            Arrays.fill(made, (byte) 88);
+            Bits bits = Bits.packed().part(false, 1).fixed(88);
+            for (int i = 0; i < 15; i++) {
+                bits.fixed(285).fixedDistance(0);
+            }
+            bits.fixed(256).stored(true, Arrays.copyOfRange(made, 3871, made.length));
+            byte[] packed = bits.check(made);
+            SharedBlocks x = holding(packed, 4000);
+            if (x != null) {
+                Due.same("a fragment of " + made.length, x.read(0, 0, 9), n <= 225 ? 9 : SharedBlocks.SPOILT);
+            }
+            x = holding(packed, 4096);
+            if (x != null) {
+                Due.same("a block of " + made.length, x.read(0, 0, 9), n == 225 ? 9 : SharedBlocks.SPOILT);
+            }
         }
     }
 

@@ -16,6 +16,7 @@ final class PromisesTest {
         putZeros();
         putFragments();
         putShared();
+        putMany();
         putAgain();
         putPacked();
         about();
@@ -309,6 +310,10 @@ final class PromisesTest {
         long nine = x.out(0);
         Due.same("read the other", x.read(63, 4090, 8), 8);
         Due.same("the same bytes", x.out(0), nine);
+        x.fill(0, 1, 1, 5000);
+        Due.same("put shared with file 0", x.put(12, false, true), 4096 + 904 + 4096 + 905 + 4096 + 904);
+        Due.same("9 is as 0", x.about(9, 2), 0);
+        x.clear(0);
         x.clear(9);
         x.fill(12, 0, 0, 6000);
         x.fill(13, 0, 0, 6000);
@@ -319,6 +324,31 @@ final class PromisesTest {
         Due.same("shared offset", x.about(13, 5), x.about(12, 5));
         Due.same("9 has nothing now", x.about(9, 1), 0);
         Due.same("9 has no fragment now", x.about(9, 4), SharedBlocks.NONE);
+    }
+
+    /** Promise 6: as many blocks, and as many fragments, as there can be. */
+    private static void putMany() {
+        SharedBlocks x = fresh();
+        for (int file = 0; file < 63; file++) {
+            x.fill(file, 0, file + 1, 1);
+        }
+        x.fill(63, 1, 1, 65536 - 63);
+        Due.same("put many blocks", x.put(12, false, false), 65536);
+        Due.same("the last file's begin", x.about(63, 2), 63);
+        Due.same("its blocks", x.about(63, 3), 16);
+        Due.same("its last block", x.number(63, 15), RAW + 4096 - 63);
+        Due.same("read its end", x.read(63, 65536 - 64, 9), 1);
+        x.clear(63);
+        for (int file = 0; file < 63; file++) {
+            x.clear(file);
+        }
+        for (int file = 0; file < 31; file++) {
+            x.fill(file, 1, file, 2049);
+        }
+        Due.same("put many fragments", x.put(12, false, true), 31 * 2049);
+        Due.same("each rest in its own one", x.fragments(), 31);
+        Due.same("the last one", x.fragment(30, 0), 30 * 2049);
+        Due.same("the last file's fragment", x.about(30, 4), 30);
     }
 
     /** Promise 6: the row is made anew each time, and what was put stays until then. */
