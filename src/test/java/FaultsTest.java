@@ -78,8 +78,10 @@ final class FaultsTest {
             return null;
         }
         SharedBlocks x = put(found[0], found[1], found[2]);
+        long word = 0;
         for (int i = 0; i < packed.length; i++) {
-            if ((x.word(i / 8) >>> 8 * (i % 8) & 255) != (packed[i] & 255)) {
+            word = i % 8 == 0 ? x.word(i / 8) : word >>> 8;
+            if ((word & 255) != (packed[i] & 255)) {
                 x.patch(i, packed[i]);
             }
         }
@@ -95,8 +97,12 @@ final class FaultsTest {
         int n = Math.min(made.length, x.about(0, 1));
         Due.same(name + ": read", x.read(0, 0, n), n);
         Due.same(name + ": taken", x.taken(), 1);
-        for (int i = 0; i < n; i += n > 2000 ? 97 : n > 300 ? 7 : 1) {
-            Due.same(name + ": byte " + i, x.out(i / 8) >>> i % 8 * 8 & 255, made[i] & 255);
+        for (int i = 0; i <= n / 8; i += 1 + n / 400) {
+            long due = 0;
+            for (int k = Math.min(8, n - 8 * i) - 1; k >= 0; k--) {
+                due = due << 8 | made[8 * i + k] & 255;
+            }
+            Due.same(name + ": out " + i, x.out(i), due);
         }
         try {
             Due.holds(name + ": by the model", Arrays.equals(made, Model.unpack(packed, 4096)));

@@ -3,7 +3,8 @@ import java.util.Random;
 /** Runs of calls drawn from seeds, each answer compared with the model's. */
 final class ModelRunsTest {
     private static final int RUNS = 160;
-    private static final int MOST_CALLS = 512;
+    /** An object is used for 512 calls at most; what is begun before this many ends before those. */
+    private static final int MOST_CALLS = 500;
 
     private final SharedBlocks own = new SharedBlocks();
     private final Model model = new Model();

@@ -49,6 +49,7 @@ final class PromisesTest {
     private static void newObject() {
         SharedBlocks x = fresh();
         for (int file = 0; file < 64; file++) {
+            x = file % 32 == 0 ? fresh() : x;
             for (int what = 0; what < 7; what++) {
                 Due.same("about of a new object", x.about(file, what), what == 4 ? SharedBlocks.NONE : 0);
             }
