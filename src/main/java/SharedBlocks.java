@@ -279,9 +279,10 @@ public final class SharedBlocks {
             return 0;
         }
         int begin = rest ? layout.fragmentBegin(fragment) : layout.blockBegin(file, i);
-        int inside = p - (i << layout.log()) + (rest ? layout.fact(file, Layout.OFFSET) : 0);
-        // Nothing tells how many bytes a fragment has, so the bytes that are looked for are all that it must have.
-        int least = rest ? inside + stop - p : layout.wholeBytes(file, i);
+        int offset = rest ? layout.fact(file, Layout.OFFSET) : 0;
+        int inside = offset + p - (i << layout.log());
+        // In a fragment a file's whole rest is looked for, however little of it is read, and others' may be behind it.
+        int least = offset + layout.wholeBytes(file, i);
         int most = rest ? layout.blockBytes() : least;
         int length = number & AS_IT_IS - 1;
         if (length > row.count() - begin) {

@@ -22,6 +22,7 @@ final class FaultsTest {
         distances();
         ends();
         lengthsOfFragments();
+        restsOfFiles();
         storedTooMuch();
         lengthsOfBlocks();
         everyBit();
@@ -33,11 +34,25 @@ final class FaultsTest {
     private static final Map<List<Integer>, int[]> FOUND = new HashMap<>();
 
     private static SharedBlocks put(int seed, int drawn, int size) {
+        return put(seed, drawn, size, size);
+    }
+
+    /** Drawn bytes, and 200 up to the size, the first ones in file 0, the others in file 1. */
+    private static SharedBlocks put(int seed, int drawn, int size, int first) {
         SharedBlocks x = new SharedBlocks();
-        if (drawn > 0) {
-            x.fill(0, 1, seed, drawn);
+        int state = seed;
+        for (int i = 0; i < drawn; i++) {
+            if (i == 0 || i == first) {
+                x.fill(i < first ? 0 : 1, 1, state, i < first ? Math.min(first, drawn) : drawn - first);
+            }
+            state = 1103515245 * state + 12345;
         }
-        x.fill(0, 0, 200, size - drawn);
+        if (first > drawn) {
+            x.fill(0, 0, 200, first - drawn);
+        }
+        if (size > Math.max(drawn, first)) {
+            x.fill(1, 0, 200, size - Math.max(drawn, first));
+        }
         x.put(12, true, true);
         return x;
     }
@@ -66,10 +81,11 @@ final class FaultsTest {
     }
 
     /**
-     * An object whose file 0 is one packed row with these bytes: of a block if the most are 4096 bytes, otherwise of a
-     * fragment; null, and told, if no row that long could be made.
+     * An object with one packed row of these bytes: of a block if the most are 4096 bytes, otherwise of a fragment, of
+     * which file 0 has so many bytes as are told first, or all if they are fewer, and file 1 the others; null, and told,
+     * if no row that long could be made.
      */
-    private static SharedBlocks holding(byte[] packed, int most) {
+    private static SharedBlocks holding(byte[] packed, int most, int first) {
         List<Integer> key = Arrays.asList(packed.length, most);
         int[] found = FOUND.containsKey(key) ? FOUND.get(key) : find(packed.length, most);
         FOUND.put(key, found);
@@ -77,7 +93,8 @@ final class FaultsTest {
         if (found == null) {
             return null;
         }
-        SharedBlocks x = put(found[0], found[1], found[2]);
+        SharedBlocks x = put(found[0], found[1], found[2], Math.min(first, found[2]));
+        Due.same("its length", packedLength(x, found[2]), packed.length);
         long word = 0;
         for (int i = 0; i < packed.length; i++) {
             word = i % 8 == 0 ? x.word(i / 8) : word >>> 8;
@@ -90,11 +107,11 @@ final class FaultsTest {
 
     /** A fragment whose packed row makes these bytes. */
     private static void makes(String name, byte[] packed, byte[] made) {
-        SharedBlocks x = holding(packed, 4000);
+        SharedBlocks x = holding(packed, 4000, made.length);
         if (x == null || made.length == 0) {
             return;
         }
-        int n = Math.min(made.length, x.about(0, 1));
+        int n = x.about(0, 1);
         Due.same(name + ": read", x.read(0, 0, n), n);
         Due.same(name + ": taken", x.taken(), 1);
         for (int i = 0; i <= n / 8; i += 1 + n / 400) {
@@ -116,7 +133,7 @@ final class FaultsTest {
     }
 
     private static void faulty(String name, byte[] packed) {
-        SharedBlocks x = holding(packed, 4000);
+        SharedBlocks x = holding(packed, 4000, 1);
         if (x == null) {
             return;
         }
@@ -564,33 +581,93 @@ final class FaultsTest {
         return bits.fixed(256).check(made);
     }
 
-    /** A fragment must have what is looked for, and not more than a block. */
+    /** A fragment must have each file's rest that is read, however little of it, and not more than a block. */
     private static void lengthsOfFragments() {
         for (int n : new int[] {30, 3999, 4000, 4001, 4096}) {
-            SharedBlocks x = holding(fixedRun(88, n), 4000);
-            if (x == null) {
-                continue;
+            for (int first = n - 1; first <= Math.min(n + 1, 4000); first++) {
+                SharedBlocks x = holding(fixedRun(88, n), 4000, first);
+                if (x != null) {
+                    Due.same("both files are the largest", x.about(0, 1) + x.about(1, 1), 4000);
+                    restIs(x, 0, first <= n);
+                    restIs(x, 1, 4000 <= n);
+                    restIs(x, 0, first <= n);
+                }
             }
-            Due.same("the file is the largest", x.about(0, 1), 4000);
-            int end = Math.min(n, 4000);
-            Due.same("a fragment of " + n, x.read(0, 0, end), end);
-            Due.same("its last byte", x.read(0, end - 1, 1), 1);
-            Due.same("its last byte", x.out(0), 88);
-            Due.same("one more", x.read(0, end - 1, 2), n < 4000 ? SharedBlocks.SPOILT : 1);
-            Due.same("one behind it", x.read(0, end, 1), n < 4000 ? SharedBlocks.SPOILT : 0);
         }
         for (int n : new int[] {4097, 4129, 5000}) {
-            SharedBlocks x = holding(fixedRun(88, n), 4000);
+            SharedBlocks x = holding(fixedRun(88, n), 4000, 2000);
             if (x != null) {
-                Due.same("a fragment of " + n, x.read(0, 0, 1), SharedBlocks.SPOILT);
+                restIs(x, 0, false);
+                restIs(x, 1, false);
             }
         }
         byte[] stored = Bits.packed().stored(true, new byte[300]).check(new byte[300]);
-        SharedBlocks x = holding(stored, 4000);
-        if (x != null) {
-            Due.same("a stored fragment", x.read(0, 0, 300), 300);
-            Due.same("more than it", x.read(0, 0, 301), SharedBlocks.SPOILT);
+        for (int first = 299; first <= 301; first++) {
+            SharedBlocks x = holding(stored, 4000, first);
+            if (x != null) {
+                Due.same("a stored fragment", x.read(0, 0, 1), first <= 300 ? 1 : SharedBlocks.SPOILT);
+                Due.same("all of it", x.read(0, 0, 301), first <= 300 ? first : SharedBlocks.SPOILT);
+            }
         }
+    }
+
+    /** Whether a file that is a rest alone, in a fragment of 88 patched over it, can be read, at whatever place. */
+    private static void restIs(SharedBlocks x, int file, boolean good) {
+        int n = x.about(file, 1);
+        long before = x.out(0);
+        int[][] stretches = {{0, 1}, {n - 1, 1}, {n / 2, 1}, {0, n}, {0, n - 1}, {n - 1, 2}, {1, 4096}};
+        for (int[] stretch : stretches) {
+            int there = Math.min(stretch[1], n - stretch[0]);
+            String name = "file " + file + " of " + n + ", " + there + " from " + stretch[0];
+            if (n > 0 && there > 0) {
+                Due.same(name, x.read(file, stretch[0], stretch[1]), good ? there : SharedBlocks.SPOILT);
+                Due.same(name + ": taken", x.taken(), good ? 1 : 0);
+                Due.same(name + ": out", x.out(0) & 255, (good ? 88 : before) & 255);
+            }
+        }
+        Due.same("none of it is needed", x.read(file, 0, 0), 0);
+        Due.same("it ends there", x.read(file, n, 1), 0);
+    }
+
+    /** A fragment of 101 bytes becomes one of 100: those whose rest ends before are read, the others not. */
+    private static void restsOfFiles() {
+        SharedBlocks x = new SharedBlocks();
+        x.fill(0, 0, 9, 4096);
+        x.fill(0, 0, 7, 60);
+        x.fill(1, 0, 7, 41);
+        x.fill(2, 0, 9, 4096);
+        x.fill(2, 0, 7, 60);
+        x.fill(3, 0, 7, 41);
+        x.put(12, true, true);
+        int begin = x.fragment(0, 0);
+        int[][] patches = {{4, 3}, {7, 138}, {8, 122}, {10, 189}};
+        for (int[] patch : patches) {
+            x.patch(begin + patch[0], patch[1]);
+        }
+        for (int file = 0; file < 4; file += 2) {
+            Due.same("a block before", x.read(file, 0, 4096), 4096);
+            Due.same("block and rest", x.read(file, 4090, 100), 66);
+            Due.same("two are taken", x.taken(), 2);
+            Due.same("the bytes", x.out(0), 0x0707090909090909L);
+            Due.same("the rest", x.read(file, 4096, 4096), 60);
+            Due.same("its last byte", x.read(file, 4155, 1), 1);
+            Due.same("one is taken", x.taken(), 1);
+            Due.same("the byte", x.out(0), 7);
+            for (int[] stretch : new int[][] {{0, 1}, {0, 40}, {0, 41}, {39, 1}, {40, 1}, {40, 4096}}) {
+                Due.same("the other file from " + stretch[0], x.read(file + 1, stretch[0], stretch[1]),
+                        SharedBlocks.SPOILT);
+                Due.same("nothing is taken", x.taken(), 0);
+                Due.same("the out stays", x.out(0), 7);
+            }
+            Due.same("no block is needed", x.read(file + 1, 40, 0), 0);
+            Due.same("no block is needed behind it", x.read(file + 1, 41, 7), 0);
+        }
+        x.clear(0);
+        x.clear(1);
+        Due.same("the rest as it was put", x.read(0, 4096, 1), 1);
+        Due.same("the other one too", x.read(1, 0, 1), SharedBlocks.SPOILT);
+        x.put(12, true, true);
+        Due.same("put anew", x.read(3, 0, 41), 41);
     }
 
     /** A stored part behind a fixed one of 3871 bytes comes to the bytes that there may be, or to one more. */
@@ -604,11 +681,11 @@ final class FaultsTest {
             }
             bits.fixed(256).stored(true, Arrays.copyOfRange(made, 3871, made.length));
             byte[] packed = bits.check(made);
-            SharedBlocks x = holding(packed, 4000);
+            SharedBlocks x = holding(packed, 4000, 4000);
             if (x != null) {
                 Due.same("a fragment of " + made.length, x.read(0, 0, 9), n <= 225 ? 9 : SharedBlocks.SPOILT);
             }
-            x = holding(packed, 4096);
+            x = holding(packed, 4096, 4096);
             if (x != null) {
                 Due.same("a block of " + made.length, x.read(0, 0, 9), n == 225 ? 9 : SharedBlocks.SPOILT);
             }
@@ -618,14 +695,14 @@ final class FaultsTest {
     /** A block must have just its bytes. */
     private static void lengthsOfBlocks() {
         for (int n : new int[] {1, 4095, 4096, 4097, 4129, 8192}) {
-            SharedBlocks x = holding(fixedRun(88, n), 4096);
+            SharedBlocks x = holding(fixedRun(88, n), 4096, 4096);
             if (x != null) {
                 Due.same("a block of " + n, x.read(0, 0, 1), n == 4096 ? 1 : SharedBlocks.SPOILT);
                 Due.same("taken", x.taken(), n == 4096 ? 1 : 0);
             }
         }
         byte[] made = new byte[300];
-        SharedBlocks x = holding(Bits.packed().stored(true, made).check(made), 4096);
+        SharedBlocks x = holding(Bits.packed().stored(true, made).check(made), 4096, 4096);
         if (x != null) {
             Due.same("a stored block of too few bytes", x.read(0, 0, 1), SharedBlocks.SPOILT);
         }
@@ -661,7 +738,7 @@ final class FaultsTest {
                 x.patch(i, other[i]);
                 int due = SharedBlocks.SPOILT;
                 try {
-                    due = Math.min(Model.unpack(other, 4096).length, text.length);
+                    due = Model.unpack(other, 4096).length < text.length ? SharedBlocks.SPOILT : text.length;
                 } catch (Model.Fault fault) {
                     due = SharedBlocks.SPOILT;
                 }

@@ -296,8 +296,8 @@ final class Model {
             if (a < b) {
                 int[] fragment = fragments.get(it.fragment);
                 byte[] data = block(fragment[0], fragment[1], block);
-                if (data.length < it.offset + b - start) {
-                    throw new Fault("less than is looked for");
+                if (data.length < it.offset + it.size - start) {
+                    throw new Fault("less than the file's rest");
                 }
                 used++;
                 stretch = join(stretch, Arrays.copyOfRange(data, it.offset + a - start, it.offset + b - start));
