@@ -82,8 +82,8 @@ final class FaultsTest {
 
     /**
      * An object with one packed row of these bytes: of a block if the most are 4096 bytes, otherwise of a fragment, of
-     * which file 0 has so many bytes as are told first, or all if they are fewer, and file 1 the others; null, and told,
-     * if no row that long could be made.
+     * which file 0 has the first bytes, as many as are said, and file 1 the others; null, and told, if no row that long
+     * could be made.
      */
     private static SharedBlocks holding(byte[] packed, int most, int first) {
         List<Integer> key = Arrays.asList(packed.length, most);
