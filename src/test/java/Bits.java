@@ -10,6 +10,18 @@ final class Bits {
         return new Bits().number(120, 8).number(156, 8);
     }
 
+    static Bits padded() {
+        return packed().pad(6);
+    }
+
+    /** Parts without bytes, which make the row longer, as those are that put() makes of many bytes. */
+    Bits pad(int parts) {
+        for (int i = 0; i < parts; i++) {
+            stored(false, new byte[0]);
+        }
+        return this;
+    }
+
     Bits bit(int bit) {
         held |= (bit & 1) << count;
         count++;
@@ -51,6 +63,11 @@ final class Bits {
         return endByte(0);
     }
 
+    /** Bits up to the end of a byte: the first one as said, the others 0. */
+    Bits lastBits(int first) {
+        return count > 0 ? bit(first).endByte() : this;
+    }
+
     Bits stored(boolean last, byte[] data) {
         part(last, 0).endByte().number(data.length, 16).number(65535 - data.length, 16);
         for (byte b : data) {
@@ -79,6 +96,35 @@ final class Bits {
 
     Bits fixedDistance(int distance) {
         return high(distance, 5);
+    }
+
+    /** The number of bytes back, as a distance's fixed code and the bits behind it. */
+    Bits fixedBack(int distance) {
+        int d = 0;
+        while (d < 29 && Model.distanceBaseAndBits(d + 1)[0] <= distance) {
+            d++;
+        }
+        int[] base = Model.distanceBaseAndBits(d);
+        return fixedDistance(d).number(distance - base[0], base[1]);
+    }
+
+    /** A byte so often, by itself once and then by matches of one back. */
+    Bits fixedRun(int b, int n) {
+        int left = n;
+        if (left > 0) {
+            fixed(b);
+            left--;
+        }
+        for (int s = 285; s > 256; s--) {
+            int[] base = Model.lengthBaseAndBits(s);
+            for (; left >= base[0]; left -= base[0]) {
+                fixed(s).number(0, base[1]).fixedDistance(0);
+            }
+        }
+        for (; left > 0; left--) {
+            fixed(b);
+        }
+        return this;
     }
 
     Bits high(int code, int length) {

@@ -2,17 +2,21 @@
 final class Due {
     private static int wrong = 0;
     private static int asked = 0;
+    /** The sentence that the checks at hand are for, where a test names one. */
+    private static String sentence = "";
 
     private Due() {
+    }
+
+    static void isFor(String words) {
+        sentence = words.isEmpty() ? "" : "[" + words + "] ";
     }
 
     static void same(String call, long got, long want) {
         asked++;
         if (got != want) {
             wrong++;
-            if (wrong <= 50) {
-                System.out.println(call + " answered " + got + ", due is " + want);
-            }
+            tell(call + " answered " + got + ", due is " + want);
         }
     }
 
@@ -20,14 +24,22 @@ final class Due {
         asked++;
         if (!right) {
             wrong++;
-            if (wrong <= 50) {
-                System.out.println("does not hold: " + what);
-            }
+            tell("does not hold: " + what);
+        }
+    }
+
+    private static void tell(String what) {
+        if (wrong <= 50) {
+            System.out.println(sentence + what);
         }
     }
 
     static int wrong() {
         return wrong;
+    }
+
+    static int asked() {
+        return asked;
     }
 
     static void end() {

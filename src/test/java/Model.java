@@ -32,6 +32,8 @@ final class Model {
     static int deepestCode = 0;
     /** How often a stored part took as many bits as the best other one, one more, and a fixed one likewise. */
     static final int[] seenTies = new int[4];
+    /** How many bits the latest part takes by each sort, but for its first three. */
+    static int[] latestBits = {};
 
     private final byte[][] files = new byte[64][0];
     private byte[] tape = new byte[0];
@@ -611,6 +613,7 @@ final class Model {
                 sort = 0;
             }
             seenSorts[sort]++;
+            latestBits = new int[] {stored.length(), fixed.length(), made.length()};
             int overOthers = stored.length() - Math.min(fixed.length(), made.length());
             int overMade = fixed.length() - made.length();
             seenTies[0] += overOthers == 0 ? 1 : 0;
