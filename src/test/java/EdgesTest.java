@@ -17,10 +17,10 @@ final class EdgesTest {
     }
 
     private static void wholeOfIt() {
-        Doc.says("What it is", "The data of a compressed file system for reading only: files are cut in blocks, rests of them"
-                + " come together in fragments, blocks of zeros take nothing, files with the same bytes share; all is packed"
-                + " where that is shorter, and any stretch of a file is read back, also from data that was spoilt, which is"
-                + " told.");
+        Doc.says("What it is", "The data of a compressed file system for reading only: files are cut in blocks, rests"
+                + " of them come together in fragments, blocks of zeros take nothing, files with the same bytes share;"
+                + " all is packed where that is shorter, and any stretch of a file is read back, also from data that"
+                + " was spoilt, which is told.");
         SharedBlocks x = new SharedBlocks();
         for (int file = 0; file < 2; file++) {
             x.fill(file, 0, 0, 4096);

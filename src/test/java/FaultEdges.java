@@ -19,6 +19,7 @@ final class FaultEdges {
         othersAbove7();
         bit32();
         bitsMissing();
+        missingOnce();
         zerosMissing();
         bytesLeft();
         sort3();
@@ -38,6 +39,7 @@ final class FaultEdges {
         beyondTheFirst();
         aboveTheWindow();
         moreBytes();
+        moreAsNothing();
         otherCheck();
     }
 
@@ -101,7 +103,8 @@ final class FaultEdges {
 
     /** A row of all sorts of parts. */
     private static byte[] allSorts() {
-        Bits bits = Bits.packed().pad(2).part(false, 1).fixedText("abc").fixed(270).number(3, 2).fixedDistance(2).fixed(256);
+        Bits bits = Bits.packed().pad(2).part(false, 1).fixedText("abc").fixed(270).number(3, 2).fixedDistance(2)
+                .fixed(256);
         bits.stored(false, Recipe.bytesOf("de"));
         int[] symbols = Made.lengths(258, 'a', 1, 256, 2, 257, 2);
         new Made(bits, true, symbols, Made.lengths(6, 4, 1, 5, 1)).text("aa").symbol(257).distance(5, 1, 1).end();
@@ -129,7 +132,39 @@ final class FaultEdges {
                 .number(65528, 16).number(0, 32).bytes());
         Patched.faulty("the check", Bits.packed().pad(2).part(true, 1).fixedText(TEXT).fixed(256).bytes());
         Patched.faulty("a part", Bits.packed().pad(2).part(false, 1).fixedText(TEXT).fixed(256).bytes());
-        Patched.faulty("a part, before a check", Bits.packed().pad(2).part(false, 1).fixedText(TEXT).fixed(256).check(MADE));
+        Patched.faulty("a stored part's bytes, which are the check", Bits.packed().part(false, 1).fixedText(TEXT)
+                .fixed(256).part(true, 0).endByte().number(4, 16).number(65531, 16).check(MADE));
+        Patched.faulty("many bytes of a stored part", Bits.packed().part(false, 1).fixedText(TEXT).fixed(256)
+                .part(true, 0).endByte().number(65535, 16).number(0, 16).check(MADE));
+        Patched.faulty("a part, before a check", Bits.packed().pad(2).part(false, 1).fixedText(TEXT).fixed(256)
+                .check(MADE));
+    }
+
+    /** What was missing once is not missing in what is read next. */
+    private static void missingOnce() {
+        Doc.says(TERMS, "bits are missing,");
+        SharedBlocks x = new SharedBlocks();
+        x.fill(0, 0, 1, 4096);
+        x.fill(1, 0, 2, 4096);
+        x.put(12, true, false);
+        int second = x.about(1, 2);
+        // The end of the first block's part becomes a code that goes on.
+        for (int i = second - 6; i < second; i++) {
+            x.patch(i, 0x55);
+        }
+        for (int i = 0; i < 3; i++) {
+            Due.same("the first block", x.read(0, 0, 9), SharedBlocks.SPOILT);
+            Due.same("the second one", x.read(1, 0, 9), 9);
+        }
+        byte[] row = allSorts();
+        for (int n = 12; n < row.length; n++) {
+            x = Patched.rests(Arrays.copyOf(row, n), 1, 4000, 12);
+            if (x != null) {
+                Due.same("so many bytes: " + n, x.read(0, 0, 1), SharedBlocks.SPOILT);
+                x.put(12, true, true);
+                Due.same("put again", x.read(0, 0, 1), 1);
+            }
+        }
     }
 
     /** Rows whose missing bytes would be zeros. */
@@ -211,6 +246,18 @@ final class FaultEdges {
         }
         Patched.faulty("6 and 6", storedWith(6, 6));
         Patched.faulty("6 and 0", storedWith(6, 0));
+        // Nothing comes behind the two numbers.
+        for (int n : new int[] {0, 1, 4, 6, 65535}) {
+            for (int other : new int[] {0, 1, 65529, 65534, 65535}) {
+                byte[] row = Bits.packed().part(false, 1).fixedText(TEXT).fixed(256).part(true, 0).endByte()
+                        .number(n, 16).number(other, 16).check(MADE);
+                if (n == 0 && other == 65535) {
+                    Patched.makes("0 and 65535", row, TEXT);
+                } else {
+                    Patched.faulty(n + " and " + other + " and nothing", row);
+                }
+            }
+        }
     }
 
     private static int[] ab(int n) {
@@ -463,6 +510,13 @@ final class FaultEdges {
             part = new Made(Bits.packed(), true, symbols, NONE_AT_ALL).text("aa").symbol(257);
             Patched.faulty("no distance by 0, and " + n, part.code("0").number(0, n).end()
                     .check(Recipe.bytesOf("aaaaa")));
+            for (byte[] made : new byte[][] {{97, 97, 0, 0, 0}, {97, 97}}) {
+                part = new Made(Bits.packed(), true, symbols, new int[] {1}).text("aa").symbol(257);
+                Patched.faulty("a distance alone by 1 as zeros or nothing", part.code("1").number(0, n).end()
+                        .check(made));
+                part = new Made(Bits.packed(), true, symbols, new int[] {1}).text("aa").symbol(257);
+                Patched.faulty("a distance alone by 1 as an end", part.code("1").number(0, n).bits().check(made));
+            }
         }
         Bits bits = Bits.packed().part(true, 2).number(0, 5).number(0, 5).number(0, 4);
         bits.number(0, 3).number(0, 3).number(1, 3).number(0, 3);
@@ -526,10 +580,18 @@ final class FaultEdges {
             for (int distance = Math.max(1, n - 1); distance <= n + 2; distance++) {
                 Bits one = Bits.padded().part(true, 1).fixedRun(0, n).fixed(257).fixedBack(distance);
                 byte[] row = one.fixed(256).check(new byte[n + 3]);
-                Bits two = Bits.padded().stored(false, new byte[n / 2]).part(false, 1).fixedRun(0, n - n / 2).fixed(256);
+                Bits two = Bits.padded().stored(false, new byte[n / 2]).part(false, 1).fixedRun(0, n - n / 2)
+                        .fixed(256);
                 byte[] parts = n > 400 ? row : two.part(true, 1).fixed(257).fixedBack(distance).fixed(256)
                         .check(new byte[n + 3]);
                 String name = distance + " back from " + n;
+                byte[] end = Bits.padded().part(true, 1).fixedRun(0, n).fixed(257).fixedBack(distance)
+                        .check(new byte[n]);
+                Patched.faulty(name + ", and no end", end);
+                if (distance > n) {
+                    Patched.faulty(name + ", as nothing", Bits.padded().part(true, 1).fixedRun(0, n).fixed(257)
+                            .fixedBack(distance).fixed(256).check(new byte[n]));
+                }
                 if (distance <= n) {
                     Patched.makes(name, row, new byte[n + 3]);
                     Patched.makes(name + ", by parts", parts, new byte[n + 3]);
@@ -551,6 +613,14 @@ final class FaultEdges {
                 Bits bits = new Bits().number(x, 8).number(secondFor(x, false), 8).pad(20);
                 bits.part(true, 1).fixedRun(0, n - 3).fixed(257).fixedBack(distance).fixed(256);
                 blockIs(distance + " back behind " + x, bits, n, distance <= window);
+                if (distance > window) {
+                    bits = new Bits().number(x, 8).number(secondFor(x, false), 8).pad(20);
+                    bits.part(true, 1).fixedRun(0, n).fixed(257).fixedBack(distance);
+                    blockIs(distance + " back behind " + x + ", as an end", bits, n, false);
+                    bits = new Bits().number(x, 8).number(secondFor(x, false), 8).pad(20);
+                    bits.part(true, 1).fixedRun(0, n).fixed(257).fixedBack(distance).fixed(256);
+                    blockIs(distance + " back behind " + x + ", as nothing", bits, n, false);
+                }
             }
         }
     }
@@ -575,6 +645,25 @@ final class FaultEdges {
                 }
             }
         }
+    }
+
+    /** Rows of a block of zeros in which more bytes come, and which would be good if these were an end, or nothing. */
+    private static void moreAsNothing() {
+        Doc.says(TERMS, "more bytes than there may be;");
+        int n = 4096;
+        for (int end = 0; end < 2; end++) {
+            Bits byByte = Bits.packed().pad(20).part(true, 1).fixedRun(0, n).fixed(0);
+            Bits byMatch = Bits.packed().pad(20).part(true, 1).fixedRun(0, n).fixed(257).fixedDistance(0);
+            if (end == 1) {
+                byByte.fixed(256);
+                byMatch.fixed(256);
+            }
+            readIs("a byte more, " + end, Patched.block(byByte.check(new byte[n]), n, 12), false);
+            readIs("a match more, " + end, Patched.block(byMatch.check(new byte[n]), n, 12), false);
+        }
+        Bits stored = Bits.packed().pad(20).part(false, 1).fixedRun(0, n).fixed(256).part(true, 0).endByte();
+        readIs("a stored byte more", Patched.block(stored.number(1, 16).number(65534, 16).check(new byte[n]), n, 12),
+                false);
     }
 
     private static void readIs(String name, SharedBlocks x, boolean good) {

@@ -15,7 +15,8 @@ final class FaultsTest {
 
     /** Each bit of a packed row is turned: as the model reads it. */
     private static void everyBit() {
-        Recipe recipe = new Recipe().text("she sells sea shells by the sea shore; the shells she sells are sea shells. ");
+        Recipe recipe = new Recipe()
+                .text("she sells sea shells by the sea shore; the shells she sells are sea shells. ");
         int count = recipe.count();
         byte[] packed = recipe.row(12, true, true);
         for (int turn = 0; turn < 8; turn++) {

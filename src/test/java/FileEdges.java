@@ -161,7 +161,8 @@ final class FileEdges {
     }
 
     private static void feedBytes() {
-        Doc.says("Promise 2", "Puts the n lowest of eight bytes behind the tape, the lowest one first: how many it has.");
+        Doc.says("Promise 2", "Puts the n lowest of eight bytes behind the tape, the lowest one first:"
+                + " how many it has.");
         long eight = 0x8877665544332211L;
         for (int n = 1; n <= 8; n++) {
             SharedBlocks x = new SharedBlocks();
@@ -369,8 +370,8 @@ final class FileEdges {
             for (int kind = 0; kind < 2; kind++) {
                 int each = kind;
                 if (left < 10) {
-                    Stays.refused("10 where " + left + " are left", () -> Starts.withFiles(n), x -> x.fill(9, each, 1, 10),
-                            FULL);
+                    Stays.refused("10 where " + left + " are left", () -> Starts.withFiles(n),
+                            x -> x.fill(9, each, 1, 10), FULL);
                 } else {
                     Due.same("10 where " + left + " are left", Starts.withFiles(n).fill(9, kind, 1, 10), 20);
                 }

@@ -1,3 +1,4 @@
+import java.nio.charset.StandardCharsets;
 import java.util.Arrays;
 
 /** What a packed row is: rows without a fault at the edges of each sentence, and one step further. */
@@ -177,8 +178,7 @@ final class FormatEdges {
         // What another program packed: the first byte 4b of the part is 01001011, and so 1, 01, and 10010 of a's code.
         Patched.makes("two bytes", hex("789c4b4c0200012600c4"), "ab");
         Patched.makes("a match", hex("789c4b4c4400001d9a048d"), "aaaaaaaaaaaa");
-        Patched.makes("two symbols' matches", hex("789ccb48cdc9c957c84027150170d508d2"),
-                "hello hello hello hello!");
+        Patched.makes("a word again", hex("789ccb48cdc9c957c84027150170d508d2"), "hello hello hello hello!");
         byte[] turned = hex("789c4b4c0200012600c4");
         for (int i = 2; i < 6; i++) {
             turned[i] = (byte) (Integer.reverse(turned[i]) >>> 24);
@@ -186,6 +186,10 @@ final class FormatEdges {
         Patched.faulty("bytes from their highest bit", turned);
         Due.holds("when packed", Arrays.equals(new Recipe().run(97, 12).row(12, true, true),
                 hex("789c4b4402001d9a048d")));
+        Bits bits = Bits.packed().part(true, 1).fixedText("abcdefgh").fixed(267).bit(1).fixedDistance(5).bit(1);
+        Due.holds("a match of 16 when packed", Arrays.equals(
+                new Recipe().text("abcdefgh".repeat(3)).row(12, true, true),
+                bits.fixed(256).check(Recipe.bytesOf("abcdefgh".repeat(3)))));
     }
 
     private static void numbersAndCodes() {
@@ -319,8 +323,8 @@ final class FormatEdges {
     }
 
     /**
-     * A full code that uses the length that c adds to those before, and beside it just some of those: a length, how many
-     * symbols have it, the next length, and so on.
+     * A full code that uses the length that c adds to those before, and beside it just some of those: a length, how
+     * many symbols have it, the next length, and so on.
      */
     private static int[] codeUsing(int c) {
         int[][] rows = {null, {8, 256}, {7, 128}, {8, 255, 9, 2}, {6, 64}, {8, 255, 9, 1, 10, 2}, {5, 32},
@@ -498,7 +502,7 @@ final class FormatEdges {
 
     private static String letters(byte[] row) {
         try {
-            return new String(Model.unpack(row, 4096), java.nio.charset.StandardCharsets.ISO_8859_1);
+            return new String(Model.unpack(row, 4096), StandardCharsets.ISO_8859_1);
         } catch (Model.Fault fault) {
             return fault.getMessage();
         }
@@ -660,10 +664,10 @@ final class FormatEdges {
     }
 
     private static void distanceSymbols() {
-        Doc.says(TERMS, "Then comes the code of a DISTANCE d: for 0 .. 3 d + 1; otherwise e = d / 2 - 1, 1 + (2 + d % 2)"
-                + " shifted left by e, and a number of e bits more.");
-        int[] nearest = {1, 2, 3, 4, 5, 7, 9, 13, 17, 25, 33, 49, 65, 97, 129, 193, 257, 385, 513, 769, 1025, 1537, 2049,
-            3073, 4097, 6145, 8193, 12289, 16385, 24577};
+        Doc.says(TERMS, "Then comes the code of a DISTANCE d: for 0 .. 3 d + 1; otherwise e = d / 2 - 1, 1 +"
+                + " (2 + d % 2) shifted left by e, and a number of e bits more.");
+        int[] nearest = {1, 2, 3, 4, 5, 7, 9, 13, 17, 25, 33, 49, 65, 97, 129, 193, 257, 385, 513, 769, 1025, 1537,
+            2049, 3073, 4097, 6145, 8193, 12289, 16385, 24577};
         for (int d = 0; d < 30; d++) {
             int e = d < 4 ? 0 : d / 2 - 1;
             int[] mores = {0, 1, (1 << e) - 2, (1 << e) - 1};
@@ -695,7 +699,8 @@ final class FormatEdges {
     }
 
     private static void copies() {
-        Doc.says(TERMS, "So many bytes follow that are those so far before, each (also those that are just being made).");
+        Doc.says(TERMS, "So many bytes follow that are those so far before, each (also those that are just"
+                + " being made).");
         for (int distance = 1; distance <= 7; distance++) {
             for (int s = 257; s <= 264; s++) {
                 byte[] made = new byte[7 + s - 254];

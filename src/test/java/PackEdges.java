@@ -31,9 +31,12 @@ final class PackEdges {
         lists();
         leastCost();
         headSmall();
+        wholeStretches();
         zerosTold();
         sameTold();
         overTheBorder();
+        onesOverTheBorder();
+        manyTold();
         sizesFromTold();
         storedOrNot();
         fixedOrMade();
@@ -180,6 +183,26 @@ final class PackEdges {
             String got = Parsed.of(recipe).text();
             Due.holds(n + " before it: " + got + " has " + due, got.endsWith(" " + due + " 2 49<1"));
         }
+        // Others that are the same for longer count as well.
+        for (int n = 14; n <= 18; n++) {
+            StringBuilder text = new StringBuilder("abcdefghij");
+            for (int i = 0; i < n; i++) {
+                text.append("abcdef").append((char) (65 + i));
+            }
+            Recipe recipe = new Recipe().run(1, 80).text(text + "abcdefghij").run(2, 50);
+            String due = n < 16 ? "10<" + (10 + 7 * n) : "6<7 4<" + (10 + 7 * n);
+            String got = Parsed.of(recipe).text();
+            Due.holds(n + " of six before it: " + got + " has " + due, got.endsWith(" " + due + " 2 49<1"));
+        }
+        // Many other places between them do not count, whatever they are.
+        for (int seed = 6; seed < 16; seed++) {
+            Recipe recipe = new Recipe().run(1, 4096).run(3, 3000).text("PQRSTUVW");
+            for (int i = 0; i < 15; i++) {
+                recipe.drawn(1000 * seed + i, 1900).text("PQR").run(i, 1);
+            }
+            String got = Parsed.of(recipe.text("PQRSTUVW").run(2, 3000)).text();
+            Due.holds("the 16th far away", got.contains(" 8<" + (8 + 15 * 1904) + " 2 258<1"));
+        }
         // Such that are the same for two bytes alone are not among them.
         StringBuilder text = new StringBuilder("abcdefgh");
         for (int i = 0; i < 20; i++) {
@@ -256,7 +279,8 @@ final class PackEdges {
         for (Parsed.Part part : madeParts()) {
             int[] counts = part.symbolCounts();
             Due.same("256 comes once", counts[256], 1);
-            Due.holds("lengths of the symbols that come", Arrays.equals(part.symbols, trimmed(Model.lengths(counts, 15), 257)));
+            Due.holds("lengths of the symbols that come",
+                    Arrays.equals(part.symbols, trimmed(Model.lengths(counts, 15), 257)));
             Due.holds("lengths of the distances that come",
                     Arrays.equals(part.distances, trimmed(Model.lengths(part.distanceCounts(), 15), 1)));
             counts[256] = 2;
@@ -271,8 +295,8 @@ final class PackEdges {
     }
 
     private static void noneAndOne() {
-        Doc.says(TERMS, "LENGTHS of codes for counts, with a limit (15, and 7 for the 19): none for a count 0; 1, when there"
-                + " is just one that is not;");
+        Doc.says(TERMS, "LENGTHS of codes for counts, with a limit (15, and 7 for the 19): none for a count 0; 1,"
+                + " when there is just one that is not;");
         for (Parsed.Part part : madeParts()) {
             int[] counts = part.symbolCounts();
             for (int s = 0; s < part.symbols.length; s++) {
@@ -281,7 +305,8 @@ final class PackEdges {
         }
         // Without a match, with one distance once and twice, and with two distances.
         Recipe[] recipes = {new Recipe().bytes(lead(1)), new Recipe().bytes(lead(2)).run(1, 20),
-            new Recipe().bytes(lead(3)).run(1, 20).run(2, 20), new Recipe().bytes(lead(4)).run(1, 20).text("121212121212")};
+            new Recipe().bytes(lead(3)).run(1, 20).run(2, 20),
+            new Recipe().bytes(lead(4)).run(1, 20).text("121212121212")};
         int[][] due = {{0}, {1}, {1}, {1, 1}};
         for (int i = 0; i < recipes.length; i++) {
             Parsed.Part part = Parsed.of(recipes[i]).parts.get(0);
@@ -313,7 +338,8 @@ final class PackEdges {
 
     /**
      * A drawn part, and one in which so many letters come as often as STEEP says, and matches of three bytes with the
-     * drawn part as often as what is next; with the one 256 that makes a code as long as there are letters, and one more.
+     * drawn part as often as what is next; with the one 256 that makes a code as long as there are letters, and one
+     * more.
      */
     private static Recipe steep(int letters) {
         Recipe recipe = new Recipe().drawn(20261, 4096);
@@ -453,10 +479,10 @@ final class PackEdges {
     }
 
     private static void lists() {
-        Doc.says(TERMS, "otherwise by LISTS: the first one has the symbols with counts, by rising counts, the same by number;"
-                + " each next one, limit lists in all, has these symbols again, and PAIRS: the first and second item of the"
-                + " list before, the third and fourth, and so on, as items with the counts of both together; by rising"
-                + " counts, of the same a symbol before pairs, pairs in their order.");
+        Doc.says(TERMS, "otherwise by LISTS: the first one has the symbols with counts, by rising counts, the same by"
+                + " number; each next one, limit lists in all, has these symbols again, and PAIRS: the first and"
+                + " second item of the list before, the third and fourth, and so on, as items with the counts of both"
+                + " together; by rising counts, of the same a symbol before pairs, pairs in their order.");
         int pairsMatter = 0;
         int numbersMatter = 0;
         for (Parsed.Part part : madeParts()) {
@@ -510,8 +536,8 @@ final class PackEdges {
     }
 
     private static void leastCost() {
-        Doc.says(TERMS, "Of the last list the first 2 m - 2 items are taken, m being how many symbols have counts; a pair"
-                + " that is taken takes both of its items; a symbol's length is how often it is taken.");
+        Doc.says(TERMS, "Of the last list the first 2 m - 2 items are taken, m being how many symbols have counts; a"
+                + " pair that is taken takes both of its items; a symbol's length is how often it is taken.");
         for (Parsed.Part part : madeParts()) {
             Due.same("bits of the symbols", bitsOf(part.symbols, part.symbolCounts()), leastBits(part.symbolCounts()));
             Due.same("bits of the distances", bitsOf(part.distances, part.distanceCounts()),
@@ -567,10 +593,38 @@ final class PackEdges {
         return text.toString();
     }
 
-    private static void zerosTold() {
+    private static void wholeStretches() {
         Doc.says(TERMS, "the row of lengths is told so: of a stretch of the same ones, as long as it goes");
-        Due.holds("stretches are told as wholes", stretchesOf(madeParts().get(0)).size() > 3);
-        Doc.says(TERMS, "0 by 18 as often as 11 are left (138 at most each), then by 17 if 3 are left, then one by one;");
+        int longest = 0;
+        for (Parsed.Part part : madeParts()) {
+            int told = 0;
+            for (int[] stretch : stretchesOf(part)) {
+                String got = toldFrom(part, stretch[0], stretch[1]);
+                String due = stretch[2] == 0 ? zerosBy(stretch[1]) : sameBy(stretch[1], stretch[2]);
+                Due.holds(stretch[1] + " of " + stretch[2] + " by " + got + ", due is " + due, got.equals(due));
+                told += due.split(" ").length;
+                longest = Math.max(longest, stretch[1]);
+            }
+            Due.same("nothing else is told", part.told.size(), told);
+        }
+        Due.holds("long stretches were seen: " + longest, longest > 150);
+    }
+
+    private static String zerosBy(int n) {
+        int left = n % 138;
+        String rest = left >= 11 ? "18+" + (left - 11) : left >= 3 ? "17+" + (left - 3) : "0 ".repeat(left);
+        return ("18+127 ".repeat(n / 138) + rest).trim();
+    }
+
+    private static String sameBy(int n, int length) {
+        int left = (n - 1) % 6;
+        String rest = left >= 3 ? "16+" + (left - 3) : (length + " ").repeat(left);
+        return (length + " " + "16+3 ".repeat((n - 1) / 6) + rest).trim();
+    }
+
+    private static void zerosTold() {
+        Doc.says(TERMS, "0 by 18 as often as 11 are left (138 at most each), then by 17 if 3 are left, then one by"
+                + " one;");
         int[] gaps = {1, 2, 3, 4, 9, 10, 11, 12, 137, 138, 139, 140, 141, 148, 149, 150, 151};
         String[] due = {"0", "0 0", "17+0", "17+1", "17+6", "17+7", "18+0", "18+1", "18+126", "18+127", "18+127 0",
             "18+127 0 0", "18+127 17+0", "18+127 17+7", "18+127 18+0", "18+127 18+1", "18+127 18+2"};
@@ -684,6 +738,36 @@ final class PackEdges {
         Due.holds("stretches over the border were seen, some told by 16: " + seen, seen.contains(4));
     }
 
+    /** The most frequent symbol is the last one, and there are two distances: all three have the length 1. */
+    private static void onesOverTheBorder() {
+        Doc.says(TERMS, "(also over the border of symbols and distances),");
+        Recipe recipe = new Recipe().run('a', 1 + 11 * 258).run('b', 1).text("ab".repeat(628));
+        Parsed.Part part = Parsed.of(recipe).parts.get(0);
+        Due.same("it is made", part.sort, 2);
+        Due.holds("lengths 1, 1 and 1", part.h == 29 && part.symbols[285] == 1
+                && Arrays.equals(part.distances, new int[] {1, 1}));
+        String told = toldFrom(part, 285, 3);
+        Due.holds("told by " + told, told.equals("1 1 1"));
+    }
+
+    /** All bytes come, and those side by side not as often. */
+    private static void manyTold() {
+        Doc.says(TERMS, "the row of lengths is told so:");
+        List<Integer> all = new ArrayList<>();
+        for (int b = 0; b < 256; b++) {
+            all.addAll(Collections.nCopies(b % 2 == 0 ? 3 : 16, b));
+        }
+        Collections.shuffle(all, new Random(9));
+        byte[] bytes = new byte[all.size()];
+        for (int i = 0; i < bytes.length; i++) {
+            bytes[i] = all.get(i).byteValue();
+        }
+        Parsed.Part part = Parsed.of(new Recipe().bytes(bytes)).parts.get(0);
+        Due.same("it is made", part.sort, 2);
+        Due.holds("so many are told: " + part.told.size(), part.told.size() > 257);
+        Due.holds("its lengths", Arrays.equals(part.symbols, trimmed(Model.lengths(part.symbolCounts(), 15), 257)));
+    }
+
     private static void sizesFromTold() {
         Doc.says(TERMS, "the lengths of the 19 come from the counts of what is told so.");
         for (Parsed.Part part : madeParts()) {
@@ -692,8 +776,8 @@ final class PackEdges {
     }
 
     private static void storedOrNot() {
-        Doc.says(TERMS, "A part is stored, if that takes no more bits (its first three and those up to the end of a byte among"
-                + " them) than the others,");
+        Doc.says(TERMS, "A part is stored, if that takes no more bits (its first three and those up to the end of a"
+                + " byte among them) than the others,");
         boolean[] seen = new boolean[8];
         for (int lead = 0; lead < 40; lead++) {
             // The first part's bits, and so the bits up to the byte in the second one.
@@ -709,6 +793,7 @@ final class PackEdges {
         for (int padding = 0; padding < 8; padding++) {
             Due.holds(padding + " bits up to the byte were seen", seen[padding]);
         }
+        withMatches();
         // {seed, bytes, how many bits more it takes stored than made}
         int[][] draws = {{0, 148, 1}, {1, 148, 1}, {5, 144, 1}, {3, 168, 0}, {28, 140, 0}, {31, 148, 0}, {33, 136, 0},
             {14, 144, -1}, {15, 148, -1}, {23, 140, -1}};
@@ -736,10 +821,48 @@ final class PackEdges {
         Due.same("its bits", part.bits, 8 * bytes.length + (stored ? 3 + padding + 32 : high + 10));
     }
 
+    /** The numbers behind lengths and distances are among the bits that are compared. */
+    private static void withMatches() {
+        byte[] drawn = new Recipe().drawn(77, 4096).all();
+        // {bytes of nine bits, matches, how many bits more it takes stored than fixed or made}
+        int[][] cases = {{60, 12, -1}, {62, 13, -1}, {65, 14, -1}, {83, 14, -1}, {61, 13, 0}, {70, 16, 0}, {74, 17, 0},
+            {75, 16, 0}, {60, 13, 1}, {66, 15, 1}, {81, 15, 1}, {86, 15, 1}};
+        for (int[] each : cases) {
+            Recipe recipe = new Recipe().run(9, 12288).drawn(77, 4096)
+                    .bytes(highAndMatches(drawn, each[0], each[1]));
+            List<Parsed.Part> parts = Parsed.of(recipe).parts;
+            Model.pack(recipe.all());
+            int over = Model.latestBits[0] - Math.min(Model.latestBits[1], Model.latestBits[2]);
+            Due.same("stored takes more than the others by", over, each[2]);
+            Due.holds("so it is stored, or not", parts.get(4).sort == 0 == over <= 0);
+        }
+    }
+
+    /** Bytes of which no two are the same, and matches of three bytes with the drawn ones between them. */
+    private static byte[] highAndMatches(byte[] drawn, int high, int matches) {
+        List<Integer> order = new ArrayList<>();
+        for (int b = 144; b < 256; b++) {
+            order.add(b);
+        }
+        Collections.shuffle(order, new Random(0));
+        byte[] bytes = new byte[high + 3 * matches];
+        int at = 0;
+        int done = 0;
+        for (int i = 0; i < matches; i++) {
+            System.arraycopy(drawn, 1500 + 50 * i, bytes, at, 3);
+            at += 3;
+            for (int upTo = high * (i + 1) / matches; done < upTo; done++) {
+                bytes[at++] = order.get(done).byteValue();
+            }
+        }
+        return bytes;
+    }
+
     private static void fixedOrMade() {
         Doc.says(TERMS, "otherwise fixed, if that takes no more than made, otherwise made.");
         // {seed, bytes, how many bits more it takes fixed than made}
-        int[][] draws = {{8, 44, -1}, {135, 40, -1}, {617, 40, -1}, {886, 40, -1}, {119, 40, 0}, {137, 40, 0}, {206, 40, 0},
+        int[][] draws = {{8, 44, -1}, {135, 40, -1}, {617, 40, -1}, {886, 40, -1}, {119, 40, 0}, {137, 40, 0}, {206,
+            40, 0},
             {1344, 44, 0}, {59, 40, 1}, {341, 40, 1}, {451, 40, 1}, {571, 40, 1}};
         for (int[] draw : draws) {
             Recipe recipe = new Recipe().run(7, 4096).bytes(skewed(draw[0], 97, 26, draw[1], 2));
@@ -747,6 +870,12 @@ final class PackEdges {
             Model.pack(recipe.all());
             Due.same("fixed takes more than made by", Model.latestBits[1] - Model.latestBits[2], draw[2]);
             Due.same("so it is", part.sort, draw[2] <= 0 ? 1 : 2);
+            // What the part before was told by does not matter.
+            Recipe other = new Recipe().bytes(skewed(draw[0], 150, 100, 700, 2)).run(7, 3396)
+                    .bytes(skewed(draw[0], 97, 26, draw[1], 2));
+            List<Parsed.Part> parts = Parsed.of(other).parts;
+            Due.same("the part before is made", parts.get(0).sort, 2);
+            Due.same("so it is behind that, too", parts.get(1).sort, draw[2] <= 0 ? 1 : 2);
             Due.same("its bits", part.bits, 3 + Math.min(Model.latestBits[1], Model.latestBits[2]));
         }
     }

@@ -151,7 +151,8 @@ final class PackingTest {
             compare("words over the border " + n, 14,
                     both -> both.text("lorem ipsum ", 1).fill(0, 32, times - 18).text("lorem ipsum ", 9));
         }
-        compare("stored and others", 15, both -> both.fill(1, 1, 4096).fill(0, 1, 5000).fill(1, 2, 4500).fill(0, 2, 9000));
+        compare("stored and others", 15,
+                both -> both.fill(1, 1, 4096).fill(0, 1, 5000).fill(1, 2, 4500).fill(0, 2, 9000));
         compare("last part of one byte", 13, both -> both.fill(0, 77, 4097).fill(0, 1, 4095));
         compare("last part of two bytes", 14, both -> both.fill(0, 77, 8194));
         compare("all of it", 16, both -> both.fill(1, 5, 30000).fill(0, 4, 2768).fill(1, 5, 32768));

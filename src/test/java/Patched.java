@@ -84,8 +84,8 @@ final class Patched {
     }
 
     /**
-     * A fragment has this packed row; the first bytes of it are file 0's, those up to a most, or to fewer if one that is
-     * as long has to have fewer, are file 1's.
+     * A fragment has this packed row; the first bytes of it are file 0's, those up to a most, or to fewer if one that
+     * is as long has to have fewer, are file 1's.
      */
     static SharedBlocks rests(byte[] packed, int first, int most, int log) {
         return holding(packed, most, first, log, true);

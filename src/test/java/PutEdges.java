@@ -109,6 +109,19 @@ final class PutEdges {
         x.clear(0);
         Due.same("put nothing", x.put(12, true, true), 0);
         Due.same("nothing is there", x.size(), 0);
+        // As many blocks and fragments each time as there can be.
+        for (int i = 0; i < 40; i++) {
+            SharedBlocks many = i == 0 ? with(1, 4095, 2, 61441) : x;
+            x = many;
+            Due.same("put 65536 again", x.put(12, false, i % 2 == 0), 65536);
+            Due.same("its last whole block", x.number(1, 14), RAW + 4096);
+            Due.same("its rest", x.number(1, 15), i % 2 == 0 ? NONE : RAW + 1);
+            Due.same("fragments", x.fragments(), i % 2 == 0 ? 1 : 0);
+            Due.same("read its end", x.read(1, 61436, 9), 5);
+        }
+        x.clear(0);
+        x.clear(1);
+        x.put(12, true, true);
         Due.same("no byte", x.patch(0, 1), NONE);
     }
 

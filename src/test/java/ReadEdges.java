@@ -351,8 +351,8 @@ final class ReadEdges {
 
     private static void noBytes() {
         Doc.says("Promise 15", "(0 with none, the out has no bytes then).");
-        int[][] none = {{0, 0, 0}, {0, 4096, 0}, {0, 4106, 0}, {0, 4106, 1}, {0, 4107, 4096}, {0, HIGH, 4096}, {0, HIGH, 0},
-            {0, HIGH - 4096, 4096}, {0, 8192, 1}, {50, 0, 4096}, {50, 0, 0}, {50, HIGH, 1}, {1, 8197, 1}};
+        int[][] none = {{0, 0, 0}, {0, 4096, 0}, {0, 4106, 0}, {0, 4106, 1}, {0, 4107, 4096}, {0, HIGH, 4096},
+            {0, HIGH, 0}, {0, HIGH - 4096, 4096}, {0, 8192, 1}, {50, 0, 4096}, {50, 0, 0}, {50, HIGH, 1}, {1, 8197, 1}};
         for (int[] read : none) {
             String name = "read " + read[0] + " " + read[1] + " " + read[2];
             SharedBlocks x = Starts.rich();
@@ -503,8 +503,8 @@ final class ReadEdges {
     private static void takenBlocks() {
         Doc.says("Promise 17", "How many blocks the latest read() unpacked or took, fragments among them,");
         int[][] due = {{0, 1, 1}, {0, 4095, 1}, {0, 4096, 1}, {4095, 1, 1}, {8191, 1, 0}, {8191, 2, 1}, {8192, 1, 1},
-            {8192, 4096, 1}, {8193, 4095, 1}, {8193, 4096, 2}, {12287, 1, 1}, {12287, 2, 2}, {12288, 1, 1}, {12297, 9, 1},
-            {12298, 9, 0}, {0, 0, 0}, {12288, 0, 0}, {HIGH, 9, 0}};
+            {8192, 4096, 1}, {8193, 4095, 1}, {8193, 4096, 2}, {12287, 1, 1}, {12287, 2, 2}, {12288, 1, 1},
+            {12297, 9, 1}, {12298, 9, 0}, {0, 0, 0}, {12288, 0, 0}, {HIGH, 9, 0}};
         for (int kind = 0; kind < 4; kind++) {
             SharedBlocks x = mixed((kind & 1) == 1, (kind & 2) == 2);
             for (int[] read : due) {

@@ -115,7 +115,10 @@ final class Recipe {
             int size = x.put(log, packing, fragments);
             row = seen == 0 ? new byte[size] : row;
             words = (size + 7) / 8;
-            Due.holds("words can be seen in " + MOST_CALLS + " calls", calls < MOST_CALLS);
+            if (calls >= MOST_CALLS) {
+                Due.holds("words can be seen within " + MOST_CALLS + " calls", false);
+                return row;
+            }
             for (; seen < words && calls < MOST_CALLS; calls++) {
                 long word = x.word(seen);
                 for (int k = 0; k < 8 && 8 * seen + k < size; k++) {
@@ -123,7 +126,6 @@ final class Recipe {
                 }
                 seen++;
             }
-            seen = calls < MOST_CALLS || words == 0 ? words : seen;
         }
         return row;
     }

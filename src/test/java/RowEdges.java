@@ -225,7 +225,8 @@ final class RowEdges {
 
     private static void wordNone() {
         Doc.says("Promise 12", "0 when there are none.");
-        int[] none = {-1, 3, 4, -2, LOW, HIGH, 1 << 29, (1 << 29) + 1, -(1 << 29), 16383, 16384, HIGH / 8, HIGH / 8 + 1};
+        int[] none = {-1, 3, 4, -2, LOW, HIGH, 1 << 29, (1 << 29) + 1, -(1 << 29), 16383, 16384, HIGH / 8,
+            HIGH / 8 + 1};
         for (int i : none) {
             Due.same("word " + i, rowOf(24).word(i), 0);
             Due.same("word " + i + " of a new object", new SharedBlocks().word(i), 0);

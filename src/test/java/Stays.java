@@ -106,8 +106,9 @@ final class Stays {
         for (int i = 0; i < 200; i++) {
             seen.add(x.word(i));
         }
-        for (int i = 1; i <= 40; i++) {
-            seen.add(x.word(x.size() / 8 - i));
+        int size = x.size();
+        for (int i = 0; i <= 40; i++) {
+            seen.add(x.word(size / 8 - i));
         }
     }
 
@@ -131,14 +132,15 @@ final class Stays {
 
     /** The files' bytes, by putting them again. */
     private static void bytes(SharedBlocks x, List<Long> seen) {
-        seen.add((long) x.put(12, false, false));
+        int size = x.put(12, false, false);
+        seen.add((long) size);
         for (int i = 0; i < 64; i++) {
             seen.add((long) x.about(i, 2));
             seen.add((long) x.about(i, 3));
         }
         for (int i = 0; i < 100; i++) {
-            seen.add(x.word(x.size() / 100 * i / 8));
-            seen.add(x.word(x.size() / 8 - i));
+            seen.add(x.word(size / 100 * i / 8));
+            seen.add(x.word(size / 8 - i));
         }
     }
 
